@@ -741,12 +741,12 @@ public final class StormSlots {
             return size - 1;
         }
 
-        boolean has(int f) {
-            return f >= 0 && f < size && f < MOST_FLIGHTS;
-        }
-
         boolean sameLine(int f, int g) {
             return has(f) && has(g) && line[f] == line[g];
+        }
+
+        private boolean has(int f) {
+            return f >= 0 && f < size && f < MOST_FLIGHTS;
         }
 
         /** As a SCHEDULE without blanks. */
@@ -1204,7 +1204,7 @@ public final class StormSlots {
         // -- one flight
 
         boolean isFlight(int f) {
-            return roster.has(f);
+            return f >= 0 && f < roster.size && f < MOST_FLIGHTS;
         }
 
         boolean isOf(int f, int l) {
