@@ -407,7 +407,9 @@ public final class StormSlots {
             return CANNOT;
         }
         tryCancel(f);
-        return field.waitsOf(m) - trial.waitsOf(m);
+        // what f itself waits is no help to its own LINE: WAITS of both sides are those without it
+        int own = field.isOf(f, m) ? field.waitOf(f) : 0;
+        return field.waitsOf(m) - own - trial.waitsOf(m);
     }
 
     public int rank(int k) {

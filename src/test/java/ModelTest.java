@@ -605,7 +605,9 @@ public final class ModelTest {
         int helps(int no, int m) {
             F f = s.get(no);
             if (f == null || !in(m, 0, 4) || !s.ground(f)) return CANNOT;
-            return s.waits(m) - without(no).waits(m);
+            int now = 0;
+            for (F g : s.flights) if (g != f && g.line == m && g.slot != null) now += g.hold + g.circles;
+            return now - without(no).waits(m);
         }
 
         int rank(int k) {

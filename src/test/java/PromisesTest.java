@@ -797,8 +797,10 @@ public final class PromisesTest {
 
     private static void helping() {
         StormSlots x = six();
-        due("helps(2, 1)", x.helps(2, 1), 58);
+        // 3 goes up to 160, 4 to 180, 5 to 200; the 38 that 2 itself waits are no help to its line
+        due("its own line, without it", x.helps(2, 1), 20);
         due("helps(2, 2)", x.helps(2, 2), 40);
+        due("the last of all helps none", x.helps(5, 2), 0);
         due("helps(2, 0)", x.helps(2, 0), 0);
         due("helps(2, 4)", x.helps(2, 4), 0);
         due("count(5)", x.count(5), 0);
@@ -813,6 +815,20 @@ public final class PromisesTest {
         due("in the air", x.helps(0, 0), CANNOT);
         x.flight(0, 0, 0, 1);
         due("not planned", x.helps(6, 0), CANNOT);
+        StormSlots y = of("a120/60;a125/60*2;b126/6");
+        y.plan();
+        due("the only one of its line", y.helps(2, 1), 0);
+        due("held up by none", y.helps(2, 0), 0);
+        StormSlots z = of("a100/90;a180/30;b180/30");
+        z.rate(1, 0);
+        z.rate(2, 0);
+        z.rate(3, 1);
+        z.now(15);
+        z.plan();
+        // 0 circles 80 minutes to 180; 1 waits 60 to 240, 2 waits 65 to 245
+        due("line(0, 2)", z.line(0, 2), 140);
+        due("one of its line circles still", z.helps(1, 0), 0);
+        due("helps(1, 1)", z.helps(1, 1), 5);
     }
 
     private static void ranks() {
