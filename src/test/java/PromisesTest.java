@@ -1,86 +1,5 @@
 /** Promise by promise: ordinary inputs, the edges that the document names, and wrong inputs; answers worked out by hand. */
-public final class PromisesTest {
-    private static final int NONE = StormSlots.NONE;
-    private static final int CANNOT = -1000000;
-    private static final int LEAST = Integer.MIN_VALUE;
-    private static final int MOST = Integer.MAX_VALUE;
-    private static int promise;
-    private static int wrong;
-    private static int asked;
-
-    private static void due(String call, int got, int want) {
-        asked++;
-        if (got != want) {
-            wrong++;
-            System.out.println("promise " + promise + ": " + call + " answered " + got + ", due is " + want);
-        }
-    }
-
-    private static void due(String call, boolean got, boolean want) {
-        due(call, got ? 1 : 0, want ? 1 : 0);
-    }
-
-    // ---- what the tests begin with
-
-    /** Feeds a text, filled up with a sign that no schedule has. */
-    private static void feed(StormSlots x, String text) {
-        StringBuilder b = new StringBuilder(text);
-        while (b.length() % 20 != 0) b.append('#');
-        for (int k = 0; k < b.length(); k += 20) {
-            int[] v = new int[5];
-            for (int i = 0; i < 20; i++) v[i / 4] = v[i / 4] << 8 | b.charAt(k + i);
-            x.feed(v[0], v[1], v[2], v[3], v[4]);
-        }
-    }
-
-    private static int read(StormSlots x, String text) {
-        feed(x, text);
-        return x.schedule(text.length());
-    }
-
-    private static StormSlots of(String text) {
-        StormSlots x = new StormSlots();
-        read(x, text);
-        return x;
-    }
-
-    /** Slots 120, 140, .. 220 in the hours 2 and 3, and planned. */
-    private static StormSlots slow(String text) {
-        StormSlots x = of(text);
-        x.rate(2, 3);
-        x.rate(3, 3);
-        x.plan();
-        return x;
-    }
-
-    /** Slots 120 to 220, holds 0, 19, 38, 57, 76, 95, costs 0, 57, 76, 57, 76, 380; off at 90, 110, .. 190. */
-    private static StormSlots six() {
-        return slow("a120/30;a121/30*3;b122/30*2;b123/30;c124/30;c125/30*4");
-    }
-
-    /** Slots 120, 125, 130; off at 60, 65, 70. */
-    private static StormSlots three() {
-        StormSlots x = of("a120/60;b120/60;c120/60");
-        x.plan();
-        return x;
-    }
-
-    /** Slots 120, 140, 160, 180, the lines in turn. */
-    private static StormSlots market() {
-        return slow("a120/30;b120/30;a120/30*5;b120/30*9");
-    }
-
-    /** Three lines in turn, slots 120 to 220. */
-    private static StormSlots ring() {
-        return slow("a120/30;b120/30;c120/30;a120/30*2;b120/30*3;c120/30*4");
-    }
-
-    private static void slots(StormSlots x, int... want) {
-        for (int f = 0; f < want.length; f++) due("told(" + f + ", 5)", x.told(f, 5), want[f]);
-    }
-
-    // ---- the promises
-
+public final class PromisesTest extends Asked {
     private static void newObject() {
         StormSlots x = new StormSlots();
         for (int w = 0; w <= 9; w++) due("count(" + w + ")", x.count(w), 0);
@@ -1206,54 +1125,53 @@ public final class PromisesTest {
     }
 
     public static void main(String[] args) {
-        promise = 1; newObject();
-        promise = 2; feeding();
-        promise = 3; reading(); readingFaults();
-        promise = 4; addingFlights();
-        promise = 5; drawing();
-        promise = 6; letters();
-        promise = 7; ratesOfHours();
-        promise = 8; storms();
-        promise = 9; clock();
-        promise = 10; telling();
-        promise = 11; slotsByMinutes();
-        promise = 12; atMinutes();
-        promise = 13; planning();
-        promise = 14; revising();
-        promise = 15; cancelling();
-        promise = 16; exchanging();
-        promise = 17; moving();
-        promise = 18; filling();
-        promise = 19; vacantSlots();
-        promise = 20; offering();
-        promise = 21; withdrawing();
-        promise = 22; offersTold();
-        promise = 23; dealing();
-        promise = 24; bestDeals();
-        promise = 25; linesTold();
-        promise = 26; bestOrders();
-        promise = 27; ordering();
-        promise = 28; bestCancels();
-        promise = 29; helping();
-        promise = 30; ranks();
-        promise = 31; unfairness();
-        promise = 32; linking();
-        promise = 33; linksTold();
-        promise = 34; breaking();
-        promise = 35; rounds();
-        promise = 36; cancellingAll();
-        promise = 37; rules();
-        promise = 38; demands();
-        promise = 39; crowds();
-        promise = 40; wouldBe();
-        promise = 41; ratesFor();
-        promise = 42; ifRatesAreCut();
-        promise = 43; underWay();
-        promise = 44; landings();
-        promise = 45; counts();
-        promise = 46; keeping();
-        promise = 47; undoing();
-        System.out.println(wrong == 0 ? asked + " answers are as due" : wrong + " of " + asked + " answers are not as due");
-        if (wrong != 0) System.exit(1);
+        about = "promise 1"; newObject();
+        about = "promise 2"; feeding();
+        about = "promise 3"; reading(); readingFaults();
+        about = "promise 4"; addingFlights();
+        about = "promise 5"; drawing();
+        about = "promise 6"; letters();
+        about = "promise 7"; ratesOfHours();
+        about = "promise 8"; storms();
+        about = "promise 9"; clock();
+        about = "promise 10"; telling();
+        about = "promise 11"; slotsByMinutes();
+        about = "promise 12"; atMinutes();
+        about = "promise 13"; planning();
+        about = "promise 14"; revising();
+        about = "promise 15"; cancelling();
+        about = "promise 16"; exchanging();
+        about = "promise 17"; moving();
+        about = "promise 18"; filling();
+        about = "promise 19"; vacantSlots();
+        about = "promise 20"; offering();
+        about = "promise 21"; withdrawing();
+        about = "promise 22"; offersTold();
+        about = "promise 23"; dealing();
+        about = "promise 24"; bestDeals();
+        about = "promise 25"; linesTold();
+        about = "promise 26"; bestOrders();
+        about = "promise 27"; ordering();
+        about = "promise 28"; bestCancels();
+        about = "promise 29"; helping();
+        about = "promise 30"; ranks();
+        about = "promise 31"; unfairness();
+        about = "promise 32"; linking();
+        about = "promise 33"; linksTold();
+        about = "promise 34"; breaking();
+        about = "promise 35"; rounds();
+        about = "promise 36"; cancellingAll();
+        about = "promise 37"; rules();
+        about = "promise 38"; demands();
+        about = "promise 39"; crowds();
+        about = "promise 40"; wouldBe();
+        about = "promise 41"; ratesFor();
+        about = "promise 42"; ifRatesAreCut();
+        about = "promise 43"; underWay();
+        about = "promise 44"; landings();
+        about = "promise 45"; counts();
+        about = "promise 46"; keeping();
+        about = "promise 47"; undoing();
+        end();
     }
 }
