@@ -179,6 +179,14 @@ public final class PromisesTest extends Asked {
         for (int f = 0; f < 20; f++) y.flight(4, 719, 300, 9);
         due("letter(-1)", y.letter(-1), 219);
         due("letter(218)", y.letter(218), '9');
+        for (int eta = 0; eta < 720; eta++) {
+            StormSlots z = new StormSlots();
+            z.flight(eta % 5, eta, eta % 301, 1 + eta % 9);
+            String want = "abcde".charAt(eta % 5) + "" + eta + "/" + eta % 301 + (eta % 9 > 0 ? "*" + (1 + eta % 9) : "");
+            StringBuilder told = new StringBuilder();
+            for (int k = 0; k < z.letter(-1); k++) told.append((char) z.letter(k));
+            due("all letters", told.toString(), want);
+        }
     }
 
     private static void ratesOfHours() {
@@ -313,6 +321,8 @@ public final class PromisesTest extends Asked {
         z.storm(1, 0, 11, 0);
         due("plan()", z.plan(), 3);
         slots(z, 725, 720, 730);
+        int[][] waiting = {{124, 1, 1}, {125, 1, 0}, {126, 1, 1}, {124, 124, 1}, {125, 125, 0}};
+        for (int[] w : waiting) due("held or circling a minute is waiting", of("a" + w[0] + "/" + w[1]).plan(), w[2]);
         StormSlots early = of("a60/10;b60/10");
         early.now(300);
         due("plan()", early.plan(), 1);
@@ -462,6 +472,11 @@ public final class PromisesTest extends Asked {
         StormSlots z = slow("a120/30;b140/30;c160/30");
         z.cancel(0);
         due("nobody can be so early", z.fill(), 0);
+        StormSlots last = slow("a120/30;b119/30");
+        slots(last, 140, 120);
+        last.cancel(1);
+        due("by flight 0", last.fill(), 1);
+        slots(last, 120, -2);
         StormSlots air = slow("a120/30;a120/90;b120/30");
         slots(air, 120, 140, 160);
         air.now(50);
@@ -636,6 +651,9 @@ public final class PromisesTest extends Asked {
         due("line(1, 2)", x.line(1, 2), 117);
         due("line(1, 3)", x.line(1, 3), 237);
         due("line(1, 4)", x.line(1, 4), 117);
+        StormSlots y = six();
+        y.cancel(0);
+        due("line(0, 1)", y.line(0, 1), 1);
         due("line(4, 0)", x.line(4, 0), 0);
         due("line(-1, 0)", x.line(-1, 0), NONE);
         due("line(5, 0)", x.line(5, 0), NONE);
@@ -712,6 +730,11 @@ public final class PromisesTest extends Asked {
         // without 0: 1 at 120, 3 at 140; without 1: 3 at 140; without 3: 1 at 140
         due("bestCancel(0, 0)", z.bestCancel(0, 0), 3);
         due("bestCancel(0, 1)", z.bestCancel(0, 1), 40);
+        StormSlots all = slow("a120/30;b120/30;b120/30");
+        all.cancel(0);
+        // 120 was VACANT already, and is FILLED as well: without 1 by 2, without 2 by 1
+        due("all are FILLED", all.bestCancel(1, 0), 1);
+        due("all are FILLED", all.bestCancel(1, 1), 0);
     }
 
     private static void helping() {
@@ -748,6 +771,9 @@ public final class PromisesTest extends Asked {
         due("line(0, 2)", z.line(0, 2), 140);
         due("one of its line circles still", z.helps(1, 0), 0);
         due("helps(1, 1)", z.helps(1, 1), 5);
+        StormSlots all = slow("a120/30;b120/30;b120/30");
+        all.cancel(0);
+        due("all are FILLED", all.helps(1, 1), 40);
     }
 
     private static void ranks() {
@@ -767,6 +793,14 @@ public final class PromisesTest extends Asked {
         y.plan();
         due("not cut", y.rank(0), 1);
         due("not cut", y.rank(1), 0);
+        StormSlots first = of("b60/10;a60/10");
+        first.plan();
+        due("line 0 waits most", first.rank(0), 0);
+        due("line 0 waits most", first.rank(1), 1);
+        StormSlots like = of("b60/10;a120/10");
+        like.plan();
+        due("of like ones by numbers", like.rank(0), 0);
+        due("of like ones by numbers", like.rank(1), 1);
         StormSlots z = of("c120/10;b60/10;d240/10");
         due("nothing is planned", z.rank(0), -2);
         z.plan();
@@ -935,10 +969,26 @@ public final class PromisesTest extends Asked {
         x.now(91);
         due("byRule(1, 0)", x.byRule(1, 0), 3 * 3 * 19 + 4 * 35 + 2 * 58 + 77 + 96);
         due("byRule(1, 1)", x.byRule(1, 1), 35 + 58 + 77 + 96);
+        due("byRule(1, 2)", x.byRule(1, 2), 96);
+        StormSlots both = cutShort();
+        both.rate(2, 1);
+        due("circling is waiting", both.byRule(1, 2), 60);
+        due("and no HOLD", both.byRule(1, 1), 0);
+        due("and dear", both.byRule(1, 0), 180);
         // a line without any left is passed: e0, then a: 1, 2, 3
         StormSlots y = slow("e120/30;a121/30;a122/30;a123/30;e124/30*9");
         // in turn: a1 140, e0 120, a2 160, e4 180, a3 200
         due("byRule(2, 0)", y.byRule(2, 0), 19 + 38 + 9 * 56 + 77);
+        // of one ETA by numbers: 0 120, 2 140, 1 160, 3 180
+        due("byRule(2, 0)", slow("a120/30;a120/30*2;b120/30*3;b120/30*4").byRule(2, 0), 3 * 20 + 2 * 40 + 4 * 60);
+        // by ETA first: 1 120, 2 140, 0 160
+        StormSlots backward = of("a119/30*5;a118/30*2;b117/30*3");
+        backward.rate(1, 0);
+        backward.rate(2, 3);
+        due("byRule(2, 0)", backward.byRule(2, 0), 2 * 2 + 3 * 23 + 5 * 41);
+        // who is off at NOW has no part in the turns: 0 circles to 120, then 1 140, 2 160
+        due("byRule(2, 0)", slow("a120/120;a120/30;b120/30*2").byRule(2, 0), 20 + 2 * 40);
+        due("byRule(1, 0)", slow("a120/120;a120/30;b120/30*2").byRule(1, 0), 2 * 20 + 40);
     }
 
     private static void demands() {
@@ -953,6 +1003,14 @@ public final class PromisesTest extends Asked {
         StormSlots y = of("a59/0;a60/0;a119/0;a120/0");
         due("demand(1, 0)", y.demand(1, 0), 2);
         due("demand(1, 2)", y.demand(1, 2), 0);
+        y.plan();
+        slots(y, 60, 65, 120, 125);
+        int[] seated = {0, 2, 2, 0};
+        for (int h = 0; h < 4; h++) due("demand(" + h + ", 2)", y.demand(h, 2), seated[h]);
+        StormSlots late = of("a715/0;a719/0");
+        late.plan();
+        due("demand(11, 0)", late.demand(11, 0), 2);
+        due("a SLOT at 720 is in no HOUR", late.demand(11, 2), 1);
     }
 
     private static void crowds() {
@@ -973,6 +1031,10 @@ public final class PromisesTest extends Asked {
         z.plan();
         due("one lands as one goes off", z.crowded(0), 1);
         due("one lands as one goes off", z.crowded(1), 0);
+        StormSlots alone = of("a100/50");
+        alone.plan();
+        due("one alone", alone.crowded(0), 1);
+        due("one alone", alone.crowded(1), 50);
         StormSlots brief = of("a120/0");
         brief.plan();
         due("never under way", brief.crowded(0), 0);
@@ -1117,6 +1179,25 @@ public final class PromisesTest extends Asked {
         due("offered(0, 1)", x.offered(0, 1), 300);
         due("linked(0, 2)", x.linked(0, 2), 10);
         due("told(3, 6)", x.told(3, 6), 57);
+        StormSlots y = six();
+        y.cancel(2);
+        y.offer(4, 300, 5, 200);
+        y.link(4, 5, 10);
+        y.keep();
+        y.plan();
+        y.cancel(5);
+        y.offer(0, 301, 1, 201);
+        y.undo();
+        due("vacant(0, 0)", y.vacant(0, 0), 160);
+        due("vacant(0, 1)", y.vacant(0, 1), 1);
+        int[] offer = {4, 300, 5, 200};
+        for (int w = 0; w < 4; w++) due("offered(0, " + w + ")", y.offered(0, w), offer[w]);
+        y.keep();
+        read(y, "a1/1;b2/2;c3/3");
+        y.link(2, 1, 11);
+        y.undo();
+        int[] link = {4, 5, 10};
+        for (int w = 0; w < 3; w++) due("linked(0, " + w + ")", y.linked(0, w), link[w]);
         due("undo()", x.undo(), NONE);
         due("a state kept again", x.keep(), 1);
         x.cancel(0);

@@ -297,6 +297,16 @@ public final class TermsTest extends Asked {
         due("next(1111)", x.next(1111), -2);
         due("airborne(1109)", x.airborne(1109) & 1 << 19, 1 << 19);
         due("would(0, 0, 11, 2)", x.would(0, 0, 11, 2), 720 + 95);
+        int[][] late = {{719, 0, 720}, {620, 100, 720}, {620, 101, 725}, {700, 100, 800}, {700, 101, 805}, {715, 300, 1015}};
+        for (int[] l : late) {
+            StormSlots y = of("a0/0");
+            y.plan();
+            y.now(l[0]);
+            y.flight(0, 0, l[1], 1);
+            y.storm(0, 11, 11, 0);
+            due("revise()", y.revise(), 1);
+            slots(y, 0, l[2]);
+        }
     }
 
     private static void nothingLeft() {
