@@ -13,6 +13,11 @@ import java.util.TreeSet;
 /** Random runs of calls, each answer against a slow model written from the document alone. */
 public final class ModelTest {
     private static final int CANNOT = -1000000;
+    /** An object is good for so many calls: no run asks for more of one. */
+    private static final int MOST_CALLS = 512;
+    /** More calls than one step of a run makes. */
+    private static final int OF_A_STEP = 24;
+    private static final int OF_ROUNDS = 40;
 
     /** A FLIGHT of the model; slot null: not planned, or cancelled. */
     private static final class F {
@@ -743,6 +748,7 @@ public final class ModelTest {
     private final StormSlots real = new StormSlots();
     private final Model model = new Model();
     private final StringBuilder log = new StringBuilder();
+    private int asked;
     /** How often each promise had an answer that is not a refusal. */
     private static final int[] REACHED = new int[48];
     /** Promises that refuse by CANNOT: their other answers may be below 0. */
@@ -860,9 +866,15 @@ public final class ModelTest {
     }
 
     private void same(int promise, String call, int got, int want) {
+        asked++;
         log.append(call).append(" -> ").append(want).append('\n');
         if (want >= 0 || (want != CANNOT && MAY_BE_BELOW.contains(promise))) REACHED[promise]++;
         if (got != want) throw new Unlike(log + call + " answered " + got + ", the model says " + want);
+    }
+
+    /** How many calls compareAll() makes. */
+    private int ofComparing() {
+        return 35 + 11 * model.s.flights.size() + 8 * 4 + 5 * model.s.links.size() + 2 * (model.s.vacant.size() + 1);
     }
 
     private void compareAll() {
@@ -969,17 +981,19 @@ public final class ModelTest {
         }
     }
 
-    /** A ring of three offers is rare by chance: here every one is tried. */
+    /** A ring of three offers is rare by chance: here every one that can be is dealt, and some that can't be are tried. */
     private void tryRounds() {
         for (int i = 0; i < 8; i++)
             for (int j = 0; j < 8; j++)
                 for (int k = 0; k < 8; k++)
-                    same(35, "round(" + i + "," + j + "," + k + ")", real.round(i, j, k), model.s.doRing(i, j, k));
+                    if (model.s.ring(i, j, k) != null || random.nextInt(40) == 0) tryRound(i, j, k);
     }
 
-    private void run(int calls) {
-        boolean tight = random.nextInt(4) > 0;
-        boolean alike = tight && random.nextBoolean();
+    private void tryRound(int i, int j, int k) {
+        if (asked < MOST_CALLS) same(35, "round(" + i + "," + j + "," + k + ")", real.round(i, j, k), model.s.doRing(i, j, k));
+    }
+
+    private void begin(boolean tight, boolean alike) {
         int many = any(alike ? 8 : 0, 20), lines = random.nextBoolean() ? 5 : 3;
         for (int k = 0; k < many; k++) {
             int line = random.nextInt(lines), eta = alike ? any(90, 130) : tight ? any(0, 240) : any(0, 719);
@@ -989,20 +1003,24 @@ public final class ModelTest {
         }
         if (tight) same(8, "storm(7,0,11,5)", real.storm(7, 0, 11, 5), model.storm(7, 0, 11, 5));
         same(13, "plan()", real.plan(), model.plan());
-        for (int c = 0; c < calls; c++) {
-            step(tight);
-            if (c % 16 == 15) compareAll();
-        }
+    }
+
+    /** Two runs of three are shorter, so that calls are left to look at all of the state. */
+    private void run() {
+        boolean tight = random.nextInt(4) > 0, looks = random.nextInt(3) > 0;
+        begin(tight, tight && random.nextBoolean());
+        while (asked + OF_A_STEP + OF_ROUNDS + (looks ? ofComparing() : 0) < MOST_CALLS) step(tight);
         for (int c = 0; c < 6; c++) offerSomething();
         tryRounds();
-        compareAll();
+        if (looks && asked + ofComparing() <= MOST_CALLS) compareAll();
+        if (asked > MOST_CALLS) throw new Unlike("more than " + MOST_CALLS + " calls");
     }
 
     public static void main(String[] args) {
-        int runs = args.length > 0 ? Integer.parseInt(args[0]) : 3000;
+        int runs = args.length > 0 ? Integer.parseInt(args[0]) : 6000;
         for (int seed = 0; seed < runs; seed++) {
             try {
-                new ModelTest(seed).run(400);
+                new ModelTest(seed).run();
             } catch (Unlike e) {
                 System.out.println("run " + seed + ":\n" + e.getMessage());
                 System.exit(1);
